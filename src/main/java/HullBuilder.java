@@ -195,6 +195,11 @@ public final class HullBuilder {
         return from * MOST_POINTS + to;
     }
 
+    /** One coordinate of the cross product of the ways from a to b and from a to c, by the other two. */
+    private static long across(int[] us, int[] vs, int a, int b, int c) {
+        return (long) (us[b] - us[a]) * (vs[c] - vs[a]) - (long) (vs[b] - vs[a]) * (us[c] - us[a]);
+    }
+
     private static long commonFactor(long a, long b) {
         // Euclid needs fewer than 64 rounds for any two longs as small as a normal's.
         for (int round = 0; round < 64 && b != 0; round++) {
@@ -285,15 +290,9 @@ public final class HullBuilder {
 
         /** Lays the plane through three points; false where they are in a line. */
         private boolean layThrough(Points at, int a, int b, int c) {
-            long ux = at.xs[b] - at.xs[a];
-            long uy = at.ys[b] - at.ys[a];
-            long uz = at.zs[b] - at.zs[a];
-            long vx = at.xs[c] - at.xs[a];
-            long vy = at.ys[c] - at.ys[a];
-            long vz = at.zs[c] - at.zs[a];
-            nx = uy * vz - uz * vy;
-            ny = uz * vx - ux * vz;
-            nz = ux * vy - uy * vx;
+            nx = across(at.ys, at.zs, a, b, c);
+            ny = across(at.zs, at.xs, a, b, c);
+            nz = across(at.xs, at.ys, a, b, c);
             distance = nx * at.xs[a] + ny * at.ys[a] + nz * at.zs[a];
             return nx != 0 || ny != 0 || nz != 0;
         }
@@ -373,13 +372,9 @@ public final class HullBuilder {
         }
 
         private boolean isRight(Points at, int a, int b, int p) {
-            long ux = at.xs[b] - at.xs[a];
-            long uy = at.ys[b] - at.ys[a];
-            long uz = at.zs[b] - at.zs[a];
-            long vx = at.xs[p] - at.xs[a];
-            long vy = at.ys[p] - at.ys[a];
-            long vz = at.zs[p] - at.zs[a];
-            return nx * (uy * vz - uz * vy) + ny * (uz * vx - ux * vz) + nz * (ux * vy - uy * vx) < 0;
+            return nx * across(at.ys, at.zs, a, b, p)
+                    + ny * across(at.zs, at.xs, a, b, p)
+                    + nz * across(at.xs, at.ys, a, b, p) < 0;
         }
 
         /** Faces are numbered in the order of this. */
@@ -450,8 +445,10 @@ public final class HullBuilder {
         }
 
         private void tryPlane(int a, int b, int c) {
-            boolean bounding = trial.layThrough(at, a, b, c) && trial.turnOutside(at);
-            if (bounding && !isKnown(trial.held) && faceCount < MOST_FACES) {
+            if (faceCount >= MOST_FACES || lieInOneFace(1 << a | 1 << b | 1 << c)) {
+                return;
+            }
+            if (trial.layThrough(at, a, b, c) && trial.turnOutside(at)) {
                 trial.shortenNormal();
                 Face spare = faces[faceCount];
                 faces[faceCount] = trial;
@@ -460,10 +457,10 @@ public final class HullBuilder {
             }
         }
 
-        /** Each plane is met once for every three of its points. */
-        private boolean isKnown(int held) {
+        /** Whether a set lies in a plane found already: three of its points would only find it again. */
+        private boolean lieInOneFace(int set) {
             for (int f = 0; f < faceCount; f++) {
-                if (faces[f].held == held) {
+                if ((faces[f].held & set) == set) {
                     return true;
                 }
             }

@@ -23,7 +23,7 @@ public final class OracleTest {
             Clouds.put(x, cloud);
             latest = compare(x, cloud, latest, random);
         }
-        prism(x);
+        cone(x);
         Check.isTrue("clouds of both kinds, " + hulls + " and " + flats, hulls > 500 && flats > 20);
         Check.due("the most faces", mostFaces, 44);
         Check.due("the most edges", mostEdges, 66);
@@ -133,7 +133,8 @@ public final class OracleTest {
             int reach = i % 2 == 0 ? 2 : 65536;
             int[] d = {random.nextInt(2 * reach + 1) - reach, random.nextInt(2 * reach + 1) - reach,
                 random.nextInt(2 * reach + 1) - reach};
-            Check.due(name("support " + Arrays.toString(d)), x.support(d[0], d[1], d[2]), want.support(d[0], d[1], d[2]));
+            Check.due(name("support " + Arrays.toString(d)), x.support(d[0], d[1], d[2]),
+                want.support(d[0], d[1], d[2]));
         }
         for (int[] p : want.at) {
             Check.due(name("side " + Arrays.toString(p)), x.side(p[0], p[1], p[2]), want.side(p));
@@ -141,7 +142,7 @@ public final class OracleTest {
     }
 
     /** 23 corners in one face, on a parabola, numbered out of order, and a top. */
-    private static void prism(HullBuilder x) {
+    private static void cone(HullBuilder x) {
         int[][] cloud = new int[24][];
         for (int p = 0; p < 23; p++) {
             int t = p * 7 % 23 - 11;

@@ -159,7 +159,8 @@ public final class PromisesTest {
             Check.due("offset " + f, x.offset(f), offsets[f]);
         }
         // The plane x + y + z = 511, whose cross product has a common factor of about a million.
-        HullBuilder far = Clouds.built(new int[][] {{512, 511, -512}, {-512, 512, 511}, {511, -512, 512}, {-9, -9, -9}});
+        HullBuilder far = Clouds.built(new int[][] {{512, 511, -512}, {-512, 512, 511}, {511, -512, 512},
+            {-9, -9, -9}});
         Check.due("far: face", ring(far, 0), "[0, 1, 2]");
         Check.due("far: normal", normal(far, 0), "[1, 1, 1]");
         Check.due("far: offset", far.offset(0), 511L);
@@ -171,7 +172,8 @@ public final class PromisesTest {
 
     private static void promise8() {
         HullBuilder x = Clouds.built(Clouds.cube(0, 4));
-        String[] rings = {"[0, 1, 5, 4]", "[0, 3, 2, 1]", "[0, 4, 7, 3]", "[1, 2, 6, 5]", "[2, 3, 7, 6]", "[4, 5, 6, 7]"};
+        String[] rings = {"[0, 1, 5, 4]", "[0, 3, 2, 1]", "[0, 4, 7, 3]", "[1, 2, 6, 5]", "[2, 3, 7, 6]",
+            "[4, 5, 6, 7]"};
         for (int f = 0; f < 6; f++) {
             Check.due("ring " + f, ring(x, f), rings[f]);
         }
@@ -188,8 +190,8 @@ public final class PromisesTest {
 
     private static void promise9() {
         HullBuilder x = Clouds.built(Clouds.cube(0, 4));
-        int[][] edges = {{0, 1, 0, 1}, {0, 3, 1, 2}, {0, 4, 2, 0}, {1, 2, 3, 1}, {1, 5, 0, 3}, {2, 3, 4, 1}, {2, 6, 3, 4},
-            {3, 7, 4, 2}, {4, 5, 5, 0}, {4, 7, 2, 5}, {5, 6, 5, 3}, {6, 7, 5, 4}};
+        int[][] edges = {{0, 1, 0, 1}, {0, 3, 1, 2}, {0, 4, 2, 0}, {1, 2, 3, 1}, {1, 5, 0, 3}, {2, 3, 4, 1},
+            {2, 6, 3, 4}, {3, 7, 4, 2}, {4, 5, 5, 0}, {4, 7, 2, 5}, {5, 6, 5, 3}, {6, 7, 5, 4}};
         for (int e = 0; e < 12; e++) {
             int[] got = {x.edge(e, 0), x.edge(e, 1), x.edge(e, 2), x.edge(e, 3)};
             Check.due("edge " + e, Arrays.toString(got), Arrays.toString(edges[e]));
@@ -245,7 +247,8 @@ public final class PromisesTest {
         Check.due("in a face's plane, beside it", x.side(512, 513, 0), -1);
         Check.due("outside", x.side(0, 0, -513), -1);
         Check.due("outside, ends", x.side(65536, -65536, 65536), -1);
-        HullBuilder tilted = Clouds.built(new int[][] {{512, 511, -510}, {-512, 509, 511}, {507, -512, 512}, {-500, -499, -512}});
+        HullBuilder tilted = Clouds.built(new int[][] {{512, 511, -510}, {-512, 509, 511}, {507, -512, 512},
+            {-500, -499, -512}});
         Check.due("tilted, far off", tilted.side(65536, 65536, 65536), -1);
         Check.due("tilted, far off", tilted.side(-65536, -65536, -65536), -1);
         Check.due("tilted, within", tilted.side(0, 0, 0), 1);
