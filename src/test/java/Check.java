@@ -10,14 +10,44 @@ final class Check {
     static final String INDEX = "IndexOutOfBoundsException";
 
     private static int wrong = 0;
+    private static String held = "";
 
     private Check() {
+    }
+
+    /** What is checked from here on holds the class to this sentence of the document. */
+    static void sentence(String heading, String words) {
+        held = heading + ", \"" + words + "\": ";
+    }
+
+    /** Runs tests; a call that throws where an answer is due ends its own test alone. */
+    static void run(Runnable... tests) {
+        for (Runnable test : tests) {
+            held = "";
+            try {
+                test.run();
+            } catch (RuntimeException thrown) {
+                wrong++;
+                System.out.println(held + "an answer is due, not " + thrown + " at " + place(thrown));
+            }
+        }
+        held = "";
+    }
+
+    /** The test's own line in which it was called. */
+    private static String place(RuntimeException thrown) {
+        for (StackTraceElement at : thrown.getStackTrace()) {
+            if (at.getClassName().endsWith("Test")) {
+                return at.toString();
+            }
+        }
+        return "an unknown place";
     }
 
     static void due(String what, Object got, Object want) {
         if (!want.equals(got)) {
             wrong++;
-            System.out.println(what + " answered " + got + ", due is " + want);
+            System.out.println(held + what + " answered " + got + ", due is " + want);
         }
     }
 

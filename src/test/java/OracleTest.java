@@ -3,6 +3,9 @@ import java.util.Random;
 
 /** Many clouds, with all that can be asked of their hulls, against the oracle. */
 public final class OracleTest {
+    private static final int[][][] SHAPES = {Clouds.cone(), Clouds.bipyramid(), Clouds.stack(),
+        Clouds.greatestTetrahedron(), Clouds.sharp(), Clouds.thin(), Clouds.fullCube(), Clouds.line(24)};
+
     private static int round;
     private static int hulls;
     private static int flats;
@@ -12,7 +15,8 @@ public final class OracleTest {
 
     public static void main(String[] args) {
         Random random = new Random(20261116);
-        // One object is used for all of them: nothing of an earlier hull may show in a later one.
+        // One object is used for all of them: nothing of an earlier hull may show in a later one. The document owes
+        // nothing after an object's 512th call; this class answers on, and the other tests make new objects.
         HullBuilder x = new HullBuilder();
         int[][] latest = null;
         for (round = 0; round < 700; round++) {
@@ -23,7 +27,6 @@ public final class OracleTest {
             Clouds.put(x, cloud);
             latest = compare(x, cloud, latest, random);
         }
-        cone(x);
         Check.isTrue("clouds of both kinds, " + hulls + " and " + flats, hulls > 500 && flats > 20);
         Check.due("the most faces", mostFaces, 44);
         Check.due("the most edges", mostEdges, 66);
@@ -32,6 +35,9 @@ public final class OracleTest {
     }
 
     private static int[][] cloud(Random random) {
+        if (round < SHAPES.length) {
+            return SHAPES[round];
+        }
         int few = 4 + random.nextInt(9);
         switch (round % 8) {
             case 0:
@@ -83,8 +89,7 @@ public final class OracleTest {
             compareFace(x, f, want.faces.get(f));
         }
         for (int e = 0; e < want.edges.size(); e++) {
-            int[] got = {x.edge(e, 0), x.edge(e, 1), x.edge(e, 2), x.edge(e, 3)};
-            Check.due(name("edge " + e), Arrays.toString(got), Arrays.toString(want.edges.get(e)));
+            Check.due(name("edge " + e), Told.edge(x, e), Arrays.toString(want.edges.get(e)));
         }
         compareSteps(x, want);
         Check.due(name("volume"), x.volume(), want.sixVolumes);
@@ -139,21 +144,6 @@ public final class OracleTest {
         for (int[] p : want.at) {
             Check.due(name("side " + Arrays.toString(p)), x.side(p[0], p[1], p[2]), want.side(p));
         }
-    }
-
-    /** 23 corners in one face, on a parabola, numbered out of order, and a top. */
-    private static void cone(HullBuilder x) {
-        int[][] cloud = new int[24][];
-        for (int p = 0; p < 23; p++) {
-            int t = p * 7 % 23 - 11;
-            cloud[p] = new int[] {t, t * t, 2 * t - t * t};
-        }
-        cloud[23] = new int[] {0, 50, 400};
-        while (x.count(0) > 0) {
-            x.take(0);
-        }
-        Clouds.put(x, cloud);
-        compare(x, cloud, null, new Random(1));
     }
 
     private static String name(String what) {

@@ -27,15 +27,21 @@ public final class ShapeTest {
     };
 
     public static void main(String[] args) {
+        Check.sentence("The public face", "public final class HullBuilder");
         Check.isTrue("the class is public and final",
             HullBuilder.class.getModifiers() == (Modifier.PUBLIC | Modifier.FINAL));
+        Check.sentence("The public face", "public HullBuilder();");
         Constructor<?>[] constructors = HullBuilder.class.getDeclaredConstructors();
         Check.due("constructors", constructors.length, 1);
         Check.isTrue("the constructor is public and bare",
             constructors[0].getModifiers() == Modifier.PUBLIC && constructors[0].getParameterCount() == 0);
-        Check.due("methods", visibleMethods(), new TreeSet<>(Arrays.asList(FACE)));
+        Check.sentence("The public face", "public int point(int x, int y, int z) throws IllegalArgumentException, "
+            + "IllegalStateException;");
+        Check.due("all methods", visibleMethods(), new TreeSet<>(Arrays.asList(FACE)));
         fields();
         privateNames();
+        Check.sentence("LANGUAGE.md, rule 1", "the classes inside it, which are private or package-visible and "
+            + "static");
         for (Class<?> inside : HullBuilder.class.getDeclaredClasses()) {
             Check.isTrue(inside + " is static", Modifier.isStatic(inside.getModifiers()));
         }
@@ -60,6 +66,7 @@ public final class ShapeTest {
     }
 
     private static void fields() {
+        Check.sentence("The public face", "public static final int NONE = -1;");
         for (Field f : HullBuilder.class.getDeclaredFields()) {
             String told = Modifier.toString(f.getModifiers());
             if (f.getName().equals("NONE")) {
@@ -73,6 +80,7 @@ public final class ShapeTest {
     }
 
     private static void privateNames() {
+        Check.sentence("LANGUAGE.md, rule 1", "No private method bears the name of a public one.");
         for (Method own : HullBuilder.class.getDeclaredMethods()) {
             for (Method other : HullBuilder.class.getDeclaredMethods()) {
                 boolean clash = Modifier.isPrivate(own.getModifiers()) && Modifier.isPublic(other.getModifiers())
