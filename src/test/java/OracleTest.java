@@ -6,7 +6,11 @@ public final class OracleTest {
     private static final int[][][] SHAPES = {Clouds.cone(), Clouds.bipyramid(), Clouds.stack(),
         Clouds.greatestTetrahedron(), Clouds.sharp(), Clouds.thin(), Clouds.fullCube(), Clouds.line(24)};
 
+    private static final Random RANDOM = new Random(20261116);
+
     private static int round;
+    private static int[][] earlier = {};
+    private static int[][] cloud;
     private static int hulls;
     private static int flats;
     private static int mostFaces;
@@ -14,18 +18,10 @@ public final class OracleTest {
     private static int mostInRing;
 
     public static void main(String[] args) {
-        Random random = new Random(20261116);
-        // One object is used for all of them: nothing of an earlier hull may show in a later one. The document owes
-        // nothing after an object's 512th call; this class answers on, and the other tests make new objects.
-        HullBuilder x = new HullBuilder();
-        int[][] latest = null;
         for (round = 0; round < 700; round++) {
-            int[][] cloud = cloud(random);
-            while (x.count(0) > 0) {
-                x.take(random.nextInt(x.count(0)));
-            }
-            Clouds.put(x, cloud);
-            latest = compare(x, cloud, latest, random);
+            cloud = cloud(RANDOM);
+            compare();
+            earlier = cloud;
         }
         Check.isTrue("clouds of both kinds, " + hulls + " and " + flats, hulls > 500 && flats > 20);
         Check.due("the most faces", mostFaces, 44);
@@ -59,45 +55,80 @@ public final class OracleTest {
         }
     }
 
-    /** Answers the points of the hull that stands afterwards. */
-    private static int[][] compare(HullBuilder x, int[][] cloud, int[][] latest, Random random) {
+    private static void compare() {
+        Oracle before = new Oracle(earlier);
         Oracle want = new Oracle(cloud);
-        int before = x.count(4);
-        if (!want.isFlat()) {
-            Check.due(name("build"), x.build(), want.faces.size());
-            Check.due(name("hulls"), x.count(4), before + 1);
+        HullBuilder x = changed();
+        int built = x.count(4);
+        Check.due(name("hulls before"), built, before.isFlat() ? 0 : 1);
+        if (want.isFlat()) {
+            flats++;
+            Check.refused(name("build"), Check.STATE, x::build);
+            Check.due(name("hulls"), x.count(4), built);
+        } else {
             hulls++;
-            compareHull(x, want, random);
-            return cloud;
+            Check.due(name("build"), x.build(), want.faces.size());
+            Check.due(name("hulls"), x.count(4), built + 1);
         }
-        flats++;
-        Check.refused(name("build"), Check.STATE, x::build);
-        Check.due(name("hulls"), x.count(4), before);
-        if (latest != null) {
-            compareHull(x, new Oracle(latest), random);
+        Oracle stands = want.isFlat() ? before : want;
+        if (!stands.isFlat()) {
+            compareHull(stands);
         }
-        return latest;
     }
 
-    private static void compareHull(HullBuilder x, Oracle want, Random random) {
+    /** A hull of the earlier points, if they have one: nothing of it may show in the next one. */
+    private static HullBuilder changed() {
+        HullBuilder x = Clouds.with(earlier);
+        tryBuild(x);
+        for (int left = earlier.length; left > 0; left--) {
+            x.take(RANDOM.nextInt(left));
+        }
+        Clouds.put(x, cloud);
+        return x;
+    }
+
+    private static HullBuilder builtAgain() {
+        HullBuilder x = changed();
+        tryBuild(x);
+        return x;
+    }
+
+    private static void tryBuild(HullBuilder x) {
+        try {
+            x.build();
+        } catch (IllegalStateException flat) {
+            // The hull stays as it is.
+        }
+    }
+
+    /** Each part has an object of its own, so that none is used for more than 512 calls. */
+    private static void compareHull(Oracle want) {
+        compareSizes(builtAgain(), want);
+        comparePlaces(builtAgain(), want);
+        HullBuilder x = builtAgain();
+        for (int f = 0; f < want.faces.size(); f++) {
+            compareFace(x, f, want.faces.get(f));
+        }
+        HullBuilder y = builtAgain();
+        for (int e = 0; e < want.edges.size(); e++) {
+            Check.due(name("edge " + e), Told.edge(y, e), Arrays.toString(want.edges.get(e)));
+        }
+        int middle = want.at.length / 2;
+        compareSteps(builtAgain(), want, 0, middle);
+        compareSteps(builtAgain(), want, middle, want.at.length);
+    }
+
+    private static void compareSizes(HullBuilder x, Oracle want) {
         Check.due(name("faces"), x.count(1), want.faces.size());
         Check.due(name("edges"), x.count(2), want.edges.size());
         Check.due(name("corners"), x.count(3), want.corners.size());
         mostFaces = Math.max(mostFaces, x.count(1));
         mostEdges = Math.max(mostEdges, x.count(2));
-        for (int f = 0; f < want.faces.size(); f++) {
-            compareFace(x, f, want.faces.get(f));
-        }
-        for (int e = 0; e < want.edges.size(); e++) {
-            Check.due(name("edge " + e), Told.edge(x, e), Arrays.toString(want.edges.get(e)));
-        }
-        compareSteps(x, want);
         Check.due(name("volume"), x.volume(), want.sixVolumes);
         for (int i = 0; i < 3; i++) {
             Check.due(name("centre " + i), x.centre(i), want.moments[i].longValueExact());
             Check.due(name("middle " + i), x.middle(i), want.moments[i].doubleValue() / (4.0 * want.sixVolumes));
         }
-        comparePlaces(x, want, random);
     }
 
     private static void compareFace(HullBuilder x, int f, long[] want) {
@@ -114,8 +145,8 @@ public final class OracleTest {
         Check.refused(name("corner behind the last"), Check.INDEX, () -> x.corner(f, want.length - 4));
     }
 
-    private static void compareSteps(HullBuilder x, Oracle want) {
-        for (int a = 0; a < want.at.length; a++) {
+    private static void compareSteps(HullBuilder x, Oracle want, int first, int end) {
+        for (int a = first; a < end; a++) {
             for (int b = 0; b < want.at.length; b++) {
                 int from = a;
                 int to = b;
@@ -128,16 +159,16 @@ public final class OracleTest {
         }
     }
 
-    private static void comparePlaces(HullBuilder x, Oracle want, Random random) {
+    private static void comparePlaces(HullBuilder x, Oracle want) {
         for (int i = 0; i < 40; i++) {
-            int[] a = want.at[random.nextInt(want.at.length)];
-            int[] b = want.at[random.nextInt(want.at.length)];
+            int[] a = want.at[RANDOM.nextInt(want.at.length)];
+            int[] b = want.at[RANDOM.nextInt(want.at.length)];
             int[] q = {(a[0] + b[0]) / 2, (a[1] + b[1]) / 2, (a[2] + b[2]) / 2};
-            q[random.nextInt(3)] += random.nextInt(3) - 1;
+            q[RANDOM.nextInt(3)] += RANDOM.nextInt(3) - 1;
             Check.due(name("side " + Arrays.toString(q)), x.side(q[0], q[1], q[2]), want.side(q));
             int reach = i % 2 == 0 ? 2 : 65536;
-            int[] d = {random.nextInt(2 * reach + 1) - reach, random.nextInt(2 * reach + 1) - reach,
-                random.nextInt(2 * reach + 1) - reach};
+            int[] d = {RANDOM.nextInt(2 * reach + 1) - reach, RANDOM.nextInt(2 * reach + 1) - reach,
+                RANDOM.nextInt(2 * reach + 1) - reach};
             Check.due(name("support " + Arrays.toString(d)), x.support(d[0], d[1], d[2]),
                 want.support(d[0], d[1], d[2]));
         }
