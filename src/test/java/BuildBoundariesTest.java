@@ -157,6 +157,9 @@ public final class BuildBoundariesTest {
         HullBuilder cube = Clouds.built(Clouds.cube(-512, 512));
         Check.due("a factor of a million, two zeros", Told.normal(cube, 0), "[0, -1, 0]");
         Check.due("a factor of 1", Told.normal(Clouds.built(Clouds.sharp()), 0), "[1024, -1048576, 1048575]");
+        // The last face lies in x + 2y + z = 2 and is spanned by (-2, 1, 0) and (-2, 0, 2).
+        HullBuilder two = Clouds.built(new int[][] {{0, 0, 0}, {2, 0, 0}, {0, 1, 0}, {0, 0, 2}});
+        Check.due("a factor of 2, the least", Told.normal(two, 3), "[1, 2, 1]");
         // The last face lies in 3x + 2y + z = 6 and is spanned by (-2, 3, 0) and (-2, 0, 6).
         HullBuilder six = Clouds.built(new int[][] {{0, 0, 0}, {2, 0, 0}, {0, 3, 0}, {0, 0, 6}});
         Check.due("a factor of 6", Told.normal(six, 3), "[3, 2, 1]");
